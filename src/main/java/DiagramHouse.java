@@ -282,7 +282,7 @@ public final class DiagramHouse {
             }
         }
 
-        /** Right for p = q too: no word is read after another one was written over it. */
+        /** Right for p = q too: a word comes of itself, or of one that stays as it is. */
         void restrict(int p, int q, int k, int v) {
             if (k < WORD_INPUTS) {
                 restrictWithinWords(p, q, k, v);
@@ -731,7 +731,7 @@ public final class DiagramHouse {
             return sum;
         }
 
-        /** A level's nodes come to lead only to the next level, so one pass down finds all. */
+        /** Nodes lead to the next level only, so one pass down finds all that belong to p. */
         int sizeOf(int p) {
             visits++;
             visit[START[0] + roots[p]] = visits;

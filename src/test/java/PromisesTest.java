@@ -19,6 +19,7 @@ public final class PromisesTest {
         siftsAll();
         orders();
         sizes();
+        sizesBehindChanges();
         counts();
         values();
         leasts();
@@ -203,6 +204,15 @@ public final class PromisesTest {
             "size(-2147483648)" + NO_PLACE);
     }
 
+    /** Each call that changes a function, with the sizes asked before and behind it. */
+    private static void sizesBehindChanges() {
+        CHECK.run("promise 14: behind each change", "size(-1) = 0", "input(0, 3)", "size(-1) = 1", "input(1, 4)",
+            "size(-1) = 2", "make(2, 2, 0, 1)", "size(-1) = 4", "choose(3, 0, 1, 5)", "size(-1) = 5", "size(3) = 2",
+            "fix(3, 3, 3, 1)", "size(3) = 1", "size(-1) = 4", "compose(3, 2, 4, 0)", "size(3) = 0", "size(-1) = 4",
+            "quantify(2, 0, 0, false)", "size(2) = 1", "size(-1) = 2", "meet(2, 0, 1, 0)", "size(2) = 2", "size(-1) = 3",
+            "constant(2, 1)", "size(2) = 0", "size(-1) = 2", "questions(3) = 1", "asked(2, 0, 0) = -1");
+    }
+
     private static void counts() {
         CHECK.run("promise 15", "count(0) = 0", "constant(0, 1)", "count(0) = 1024", "input(0, 9)", "count(0) = 512",
             "input(1, 0)", "make(0, 0, 0, 1)", "count(0) = 256", "move(9, 0)", "count(0) = 256", "count(24)" + NO_PLACE,
@@ -232,6 +242,12 @@ public final class PromisesTest {
             "make(2, 0, 0, 1)", "make(3, 0, 1, 0)", "alike(2, 3) = true", "alike(22, 23) = true", "make(4, 3, 0, 0)",
             "make(5, 2, 4, 2)", "alike(5, 2) = false", "make(5, 2, 5, 4)", "alike(5, 2) = true", "alike(24, 0)" + NO_PLACE,
             "alike(0, 24)" + NO_PLACE, "alike(-1, 0)" + NO_PLACE);
+        CHECK.run("promise 19: unlike for the first inputs alone", "input(0, 6)", "input(1, 7)", "input(2, 8)",
+            "input(3, 9)", "make(4, 1, 0, 1)", "make(4, 1, 4, 2)", "make(4, 1, 4, 3)", "make(4, 3, 4, 5)",
+            "count(4) = 64", "alike(4, 5) = false", "alike(5, 4) = false", "support(4) = 960", "size(4) = 4");
+        CHECK.run("promise 19: unlike for the last inputs alone", "input(0, 6)", "input(1, 7)", "input(2, 8)",
+            "input(3, 9)", "make(4, 0, 0, 1)", "make(4, 0, 4, 2)", "make(4, 0, 4, 3)", "least(4) = 960",
+            "count(4) = 64", "alike(4, 5) = false", "alike(5, 4) = false", "support(4) = 960", "size(4) = 4");
     }
 
     private static void askeds() {
