@@ -7,6 +7,7 @@ public final class DiagramHouse {
 
     private static final int INPUTS = 10;
     private static final int PLACES = 24;
+    private static final int ALL_PLACES = (1 << PLACES) - 1;
     private static final int WAYS = 1 << INPUTS;
 
     private static final int AND = 0;
@@ -40,26 +41,21 @@ public final class DiagramHouse {
     }
 
     public void make(int p, int kind, int q, int r) throws IndexOutOfBoundsException, IllegalArgumentException {
-        needPlace(p);
-        needPlace(q);
-        needPlace(r);
+        needPlaces(p, q, r);
         needBelow(kind, KINDS);
         functions.join(p, kind, q, r);
         diagrams.functionChanged(p);
     }
 
     public void choose(int p, int q, int r, int s) throws IndexOutOfBoundsException {
-        needPlace(p);
-        needPlace(q);
-        needPlace(r);
+        needPlaces(p, q, r);
         needPlace(s);
         functions.select(p, q, r, s);
         diagrams.functionChanged(p);
     }
 
     public void fix(int p, int q, int k, int v) throws IndexOutOfBoundsException, IllegalArgumentException {
-        needPlace(p);
-        needPlace(q);
+        needPlaces(p, q, q);
         needInput(k);
         needTruth(v);
         functions.restrict(p, q, k, v);
@@ -67,9 +63,7 @@ public final class DiagramHouse {
     }
 
     public void compose(int p, int q, int k, int r) throws IndexOutOfBoundsException, IllegalArgumentException {
-        needPlace(p);
-        needPlace(q);
-        needPlace(r);
+        needPlaces(p, q, r);
         needInput(k);
         functions.replace(p, q, k, r);
         diagrams.functionChanged(p);
@@ -77,17 +71,14 @@ public final class DiagramHouse {
 
     public void quantify(int p, int q, int set, boolean every)
             throws IndexOutOfBoundsException, IllegalArgumentException {
-        needPlace(p);
-        needPlace(q);
+        needPlaces(p, q, q);
         needBelow(set, WAYS);
         functions.project(p, q, q, set, every);
         diagrams.functionChanged(p);
     }
 
     public void meet(int p, int q, int r, int set) throws IndexOutOfBoundsException, IllegalArgumentException {
-        needPlace(p);
-        needPlace(q);
-        needPlace(r);
+        needPlaces(p, q, r);
         needBelow(set, WAYS);
         functions.project(p, q, r, set, false);
         diagrams.functionChanged(p);
@@ -96,16 +87,25 @@ public final class DiagramHouse {
     public int move(int k, int to) throws IllegalArgumentException {
         needInput(k);
         needBelow(to, INPUTS);
-        return diagrams.moveTo(k, to);
+        diagrams.draw(ALL_PLACES);
+        diagrams.moveTo(k, to);
+        return diagrams.wholeSize();
     }
 
     public int sift(int k) throws IllegalArgumentException {
         needInput(k);
-        return diagrams.settleOne(k);
+        diagrams.draw(ALL_PLACES);
+        return diagrams.settle(k);
     }
 
     public int siftAll() {
-        return diagrams.settleAll();
+        diagrams.draw(ALL_PLACES);
+        int turns = diagrams.takeTurns();
+        for (int turn = 0; turn < turns; turn++) {
+            diagrams.settle(diagrams.inputWithTurn(turn));
+        }
+        diagrams.settleUnused();
+        return diagrams.wholeSize();
     }
 
     public int order(int i) throws IndexOutOfBoundsException {
@@ -117,9 +117,11 @@ public final class DiagramHouse {
 
     public int size(int p) throws IndexOutOfBoundsException {
         if (p == NONE) {
+            diagrams.draw(ALL_PLACES);
             return diagrams.wholeSize();
         }
         needPlace(p);
+        diagrams.draw(1 << p);
         return diagrams.sizeOf(p);
     }
 
@@ -145,8 +147,7 @@ public final class DiagramHouse {
     }
 
     public boolean alike(int p, int q) throws IndexOutOfBoundsException {
-        needPlace(p);
-        needPlace(q);
+        needPlaces(p, q, q);
         return functions.areSame(p, q);
     }
 
@@ -156,16 +157,24 @@ public final class DiagramHouse {
             throw new IndexOutOfBoundsException("no such question");
         }
         needBelow(inputs, WAYS);
+        diagrams.draw(1 << p);
         return diagrams.questionOf(p, inputs, i);
     }
 
     public int questions(int k) throws IllegalArgumentException {
         needInput(k);
+        diagrams.draw(ALL_PLACES);
         return diagrams.questionsFor(k);
     }
 
     private static void needPlace(int p) {
         if (p < 0 || p >= PLACES) {
+            throw new IndexOutOfBoundsException("no such place");
+        }
+    }
+
+    private static void needPlaces(int p, int q, int r) {
+        if (p < 0 || p >= PLACES || q < 0 || q >= PLACES || r < 0 || r >= PLACES) {
             throw new IndexOutOfBoundsException("no such place");
         }
     }
@@ -198,6 +207,7 @@ public final class DiagramHouse {
         static final int LAST_WORD = WORDS - 1;
         /** Inputs below this one choose a bit of a word, the others choose the word. */
         static final int WORD_INPUTS = 6;
+        private static final int WORD_SET = (1 << WORD_INPUTS) - 1;
 
         /** For an input below WORD_INPUTS: the bits of a word at which it is 1. */
         static final long[] ONES = {
@@ -209,13 +219,16 @@ public final class DiagramHouse {
         private final int[] mayUse;
         /** The places, a bit each, for which mayUse has no input too many. */
         private int sure;
+        /** The places that use two inputs or more, a bit each, as far as mayUse is sure. */
+        private int broad;
         /** What is made is written here, as its place may be one of those it is made of. */
         private long[] spare;
 
         Functions() {
             rows = new long[PLACES][WORDS];
             mayUse = new int[PLACES];
-            sure = (1 << PLACES) - 1;
+            sure = ALL_PLACES;
+            broad = 0;
             spare = new long[WORDS];
         }
 
@@ -244,10 +257,15 @@ public final class DiagramHouse {
             sure &= ~(1 << p);
         }
 
+        private void beSure(int p, int used) {
+            mayUse[p] = used;
+            sure |= 1 << p;
+            broad = (used & used - 1) == 0 ? broad & ~(1 << p) : broad | 1 << p;
+        }
+
         void setAll(int p, int v) {
             rows[p][0] = v == 1 ? -1L : 0L;
-            mayUse[p] = 0;
-            sure |= 1 << p;
+            beSure(p, 0);
         }
 
         void setInput(int p, int k) {
@@ -258,8 +276,7 @@ public final class DiagramHouse {
                 row[0] = 0L;
                 row[1 << (k - WORD_INPUTS)] = -1L;
             }
-            mayUse[p] = 1 << k;
-            sure |= 1 << p;
+            beSure(p, 1 << k);
         }
 
         void join(int p, int kind, int q, int r) {
@@ -411,12 +428,11 @@ public final class DiagramHouse {
 
         private static long someWithin(long word, int over) {
             long some = word;
-            for (int k = 0; k < WORD_INPUTS; k++) {
-                if ((over >> k & 1) == 1) {
-                    int shift = 1 << k;
-                    long zeros = (some | some >>> shift) & ~ONES[k];
-                    some = zeros | zeros << shift;
-                }
+            for (int rest = over & WORD_SET; rest != 0; rest &= rest - 1) {
+                int k = Integer.numberOfTrailingZeros(rest);
+                int shift = 1 << k;
+                long zeros = (some | some >>> shift) & ~ONES[k];
+                some = zeros | zeros << shift;
             }
             return some;
         }
@@ -459,13 +475,13 @@ public final class DiagramHouse {
         int usedInputs(int p) {
             if ((sure >> p & 1) == 0) {
                 int used = mayUse[p];
-                for (int k = 0; k < INPUTS; k++) {
-                    if ((used >> k & 1) == 1 && !depends(p, k)) {
+                for (int rest = used; rest != 0; rest &= rest - 1) {
+                    int k = Integer.numberOfTrailingZeros(rest);
+                    if (!depends(p, k)) {
                         used &= ~(1 << k);
                     }
                 }
-                mayUse[p] = used;
-                sure |= 1 << p;
+                beSure(p, used);
             }
             return mayUse[p];
         }
@@ -502,12 +518,10 @@ public final class DiagramHouse {
             for (int k = 0; k < INPUTS; k++) {
                 mates[k] = 0;
             }
-            for (int p = 0; p < PLACES; p++) {
-                int used = mayUse[p];
-                if ((used & used - 1) != 0) {
-                    for (int rest = used; rest != 0; rest &= rest - 1) {
-                        mates[Integer.numberOfTrailingZeros(rest)] |= used;
-                    }
+            for (int places = broad; places != 0; places &= places - 1) {
+                int used = mayUse[Integer.numberOfTrailingZeros(places)];
+                for (int rest = used; rest != 0; rest &= rest - 1) {
+                    mates[Integer.numberOfTrailingZeros(rest)] |= used;
                 }
             }
         }
@@ -521,57 +535,64 @@ public final class DiagramHouse {
      */
     private static final class Nodes {
         /** A node is one number: its input, the next node for 0, that for 1. */
-        private static final int BITS = 13;
-        private static final int MASK = (1 << BITS) - 1;
-        private static final int INPUT_SHIFT = 2 * BITS;
+        static final int BITS = 14;
+        static final int MASK = (1 << BITS) - 1;
+        static final int INPUT_SHIFT = 2 * BITS;
         /**
-         * Places have 3302 questions at most (24, twice as many for each input more, but
-         * 240, 12 and 2 for the last three), one more function 269; changing neighbours
-         * may need 1536 beside them for a while.
+         * Far above need: all places have 3302 questions at most (24, twice as many for
+         * each input more, but 240, 12 and 2 for the last three), and one function 269.
+         * Changing neighbours may need 1536 more for a while, a trial 3302.
          */
-        private static final int MOST_NODES = 1 << BITS;
-        private static final int FIRST_NODES = 64;
+        static final int MOST_NODES = 1 << BITS;
+        static final int FIRST_NODES = 64;
+        private static final int FIRST_MEMBERS = 8;
+        static final int ANSWERS = 2;
 
-        private static final int FIRST_HEAD_BITS = 2;
-        private static final int MOST_HEAD_BITS = 8;
         private static final int INT_BITS = 32;
         /** Odd and without a pattern, so that the top bits of a product differ for near numbers. */
         private static final int SPREAD = 0x9E3779B1;
         /** The answers are led to as often as one likes, and never go. */
         private static final int ALWAYS = 1 << 30;
+        private static final int NO_NODE = 0;
 
-        private int[] nodes;
-        private int[] leading;
-        /** Nodes with the same head are a chain, and so are numbers that are free again. */
+        int[] nodes;
+        int[] leading;
+        /** For each input the nodes that ask it, as many as asks says. */
+        final int[][] members;
+        final int[] asks;
+        private int[] memberAt;
+        /** Nodes with the same head are a chain, and so are the numbers that are free again. */
         private int[] next;
-        private int[] seen;
         private int[] heads;
-        private final int[] asks;
-        private int headBits;
+        private int headShift;
         private int free;
-        private int fresh;
+        /** This number and those above it have not been used. */
+        int fresh;
         private int size;
+        private int[] seen;
         private int looks;
 
         Nodes() {
             nodes = new int[FIRST_NODES];
             leading = new int[FIRST_NODES];
-            next = new int[FIRST_NODES];
-            seen = new int[FIRST_NODES];
-            heads = new int[INPUTS << FIRST_HEAD_BITS];
+            members = new int[INPUTS][FIRST_MEMBERS];
             asks = new int[INPUTS];
-            headBits = FIRST_HEAD_BITS;
-            nodes[0] = INPUTS << INPUT_SHIFT;
-            nodes[1] = INPUTS << INPUT_SHIFT;
-            leading[0] = ALWAYS;
-            leading[1] = ALWAYS;
+            memberAt = new int[FIRST_NODES];
+            next = new int[FIRST_NODES];
+            heads = new int[FIRST_NODES];
+            headShift = INT_BITS - Integer.numberOfTrailingZeros(FIRST_NODES);
             free = 0;
-            fresh = 2;
+            fresh = ANSWERS;
             size = 0;
+            seen = new int[FIRST_NODES];
             looks = 0;
+            for (int answer = 0; answer < ANSWERS; answer++) {
+                nodes[answer] = INPUTS << INPUT_SHIFT;
+                leading[answer] = ALWAYS;
+            }
         }
 
-        int size() {
+        int wholeSize() {
             return size;
         }
 
@@ -579,114 +600,98 @@ public final class DiagramHouse {
             return asks[k];
         }
 
-        /** Becomes as another one is, to stay so or to be changed apart from it. */
-        void become(Nodes other) {
-            if (nodes.length < other.nodes.length) {
-                nodes = new int[other.nodes.length];
-                leading = new int[other.nodes.length];
-                next = new int[other.nodes.length];
-                seen = new int[other.nodes.length];
+        /** The rows are long enough then for that many numbers, the answers' too. */
+        void makeRoomFor(int numbers) {
+            int length = nodes.length;
+            if (numbers <= length) {
+                return;
             }
-            if (headBits != other.headBits) {
-                headBits = other.headBits;
-                heads = new int[INPUTS << headBits];
+            while (length < numbers && length < MOST_NODES) {
+                length *= 2;
             }
-            free = other.free;
-            fresh = other.fresh;
-            size = other.size;
-            System.arraycopy(other.nodes, 0, nodes, 0, fresh);
-            System.arraycopy(other.leading, 0, leading, 0, fresh);
-            System.arraycopy(other.next, 0, next, 0, fresh);
-            System.arraycopy(other.heads, 0, heads, 0, INPUTS << headBits);
-            System.arraycopy(other.asks, 0, asks, 0, INPUTS);
+            nodes = lengthened(nodes, length);
+            leading = lengthened(leading, length);
+            memberAt = lengthened(memberAt, length);
+            next = lengthened(next, length);
+            seen = lengthened(seen, length);
+            heads = new int[length];
+            headShift = INT_BITS - Integer.numberOfTrailingZeros(length);
+            for (int n = ANSWERS; n < fresh; n++) {
+                if (nodes[n] != NO_NODE) {
+                    link(n);
+                }
+            }
         }
 
-        /** The node with this input and these next ones; one without a question is its next one. */
-        int nodeFor(int k, int zero, int one) {
-            if (zero == one) {
-                return zero;
-            }
-            int wanted = k << INPUT_SHIFT | zero << BITS | one;
-            int head = (k << headBits) + (wanted * SPREAD >>> INT_BITS - headBits);
-            int n = heads[head];
+        static int[] lengthened(int[] row, int length) {
+            int[] longer = new int[length];
+            System.arraycopy(row, 0, longer, 0, row.length);
+            return longer;
+        }
+
+        /** The number of a node, 0 if it is not there. */
+        private int found(int wanted) {
+            int n = heads[wanted * SPREAD >>> headShift];
             for (int steps = 0; n != 0 && steps < MOST_NODES; steps++) {
                 if (nodes[n] == wanted) {
                     return n;
                 }
                 n = next[n];
             }
-            return entered(wanted, head);
+            return 0;
         }
 
-        private int entered(int node, int head) {
-            int n = free;
-            if (n != 0) {
-                free = next[n];
-            } else {
-                n = fresh;
-                if (n >= nodes.length) {
-                    grow();
-                }
-                if (n >= nodes.length) {
-                    return 0;
-                }
-                fresh++;
+        /**
+         * The node with this input and these next ones, which is the next one if that is
+         * the same for 0 and 1. One that was not there has nothing that leads to it yet.
+         */
+        int nodeFor(int k, int zero, int one) {
+            if (zero == one) {
+                return zero;
             }
-            nodes[n] = node;
-            leading[n] = 0;
-            next[n] = heads[head];
-            heads[head] = n;
-            leading[node >>> BITS & MASK]++;
-            leading[node & MASK]++;
-            asks[node >>> INPUT_SHIFT]++;
-            size++;
+            int wanted = k << INPUT_SHIFT | zero << BITS | one;
+            int n = found(wanted);
+            if (n == 0) {
+                n = free != 0 ? free : fresh;
+                if (n >= nodes.length) {
+                    return zero;
+                }
+                if (n == free) {
+                    free = next[n];
+                } else {
+                    fresh++;
+                }
+                nodes[n] = wanted;
+                link(n);
+                enlist(n, k);
+                leading[n] = 0;
+                leading[zero]++;
+                leading[one]++;
+                size++;
+            }
             return n;
         }
 
-        private void grow() {
-            int length = Math.min(2 * nodes.length, MOST_NODES);
-            nodes = lengthened(nodes, length);
-            leading = lengthened(leading, length);
-            next = lengthened(next, length);
-            seen = lengthened(seen, length);
-        }
-
-        private static int[] lengthened(int[] row, int length) {
-            int[] longer = new int[length];
-            System.arraycopy(row, 0, longer, 0, row.length);
-            return longer;
-        }
-
-        /** Shortens the chains if there are many nodes; not while one of them is gone through. */
-        void shortenChains() {
-            if (size <= INPUTS << headBits + 1 || headBits >= MOST_HEAD_BITS) {
-                return;
+        private void enlist(int n, int k) {
+            int count = asks[k];
+            if (count >= members[k].length) {
+                int[] longer = new int[2 * count];
+                System.arraycopy(members[k], 0, longer, 0, count);
+                members[k] = longer;
             }
-            int[] longChains = heads;
-            headBits += 2;
-            heads = new int[INPUTS << headBits];
-            for (int head = 0; head < longChains.length; head++) {
-                int n = longChains[head];
-                for (int steps = 0; n != 0 && steps < MOST_NODES; steps++) {
-                    int following = next[n];
-                    link(n);
-                    n = following;
-                }
-            }
-        }
-
-        private int headOf(int node) {
-            return (node >>> INPUT_SHIFT << headBits) + (node * SPREAD >>> INT_BITS - headBits);
+            members[k][count] = n;
+            memberAt[n] = count;
+            asks[k] = count + 1;
         }
 
         private void link(int n) {
-            int head = headOf(nodes[n]);
+            int head = nodes[n] * SPREAD >>> headShift;
             next[n] = heads[head];
             heads[head] = n;
         }
 
         private void unlink(int n) {
-            int head = headOf(nodes[n]);
+            int head = nodes[n] * SPREAD >>> headShift;
             int m = heads[head];
             if (m == n) {
                 heads[head] = next[n];
@@ -706,7 +711,7 @@ public final class DiagramHouse {
             leading[n]++;
         }
 
-        /** Goes down one input at least with each call of itself. */
+        /** A next node asks a later input, so that the depth of these calls is that of a diagram. */
         void leadNoMore(int n, int depth) {
             leading[n]--;
             if (leading[n] == 0 && depth > 0) {
@@ -719,8 +724,14 @@ public final class DiagramHouse {
 
         private void forget(int n) {
             unlink(n);
-            asks[nodes[n] >>> INPUT_SHIFT]--;
+            int k = nodes[n] >>> INPUT_SHIFT;
+            int count = asks[k] - 1;
+            int last = members[k][count];
+            members[k][memberAt[n]] = last;
+            memberAt[last] = memberAt[n];
+            asks[k] = count;
             size--;
+            nodes[n] = NO_NODE;
             next[n] = free;
             free = n;
         }
@@ -731,7 +742,7 @@ public final class DiagramHouse {
         }
 
         private int unseenFrom(int n, int depth) {
-            if (n < 2 || depth == 0 || seen[n] == looks) {
+            if (n < ANSWERS || depth == 0 || seen[n] == looks) {
                 return 0;
             }
             seen[n] = looks;
@@ -741,7 +752,7 @@ public final class DiagramHouse {
 
         int questionFrom(int root, int given, int i) {
             int n = root;
-            for (int before = 0; before < INPUTS && n >= 2; before++) {
+            for (int before = 0; before < INPUTS && n >= ANSWERS; before++) {
                 int node = nodes[n];
                 int k = node >>> INPUT_SHIFT;
                 if (before == i) {
@@ -754,97 +765,309 @@ public final class DiagramHouse {
 
         /** Input x came right before y, and comes right behind it then. */
         void change(int x, int y) {
-            int taken = takeThoseBefore(x, y);
-            if (taken != 0) {
-                for (int more = 0; nodes.length - size < 2 * asks[x] + 2 && more < BITS; more++) {
-                    grow();
-                }
-                turn(taken, x, y);
+            makeRoomFor(ANSWERS + size + 2 * asks[x]);
+            int n = takeThoseBefore(x, y);
+            for (int steps = 0; n != 0 && steps < MOST_NODES; steps++) {
+                int following = next[n];
+                turn(n, x, y);
+                n = following;
             }
         }
 
-        /** Takes the nodes of x that lead to y out of their chains, and into one of their own. */
+        /** Takes the nodes of x that lead to y from the others; they are a chain of their own then. */
         private int takeThoseBefore(int x, int y) {
             int[] all = nodes;
-            int[] following = next;
+            int[] row = members[x];
+            int count = asks[x];
+            int staying = 0;
             int taken = 0;
-            int end = x + 1 << headBits;
-            for (int head = x << headBits; head < end; head++) {
-                int before = 0;
-                int n = heads[head];
-                for (int steps = 0; n != 0 && steps < MOST_NODES; steps++) {
-                    int then = following[n];
-                    int node = all[n];
-                    if (all[node & MASK] >>> INPUT_SHIFT != y && all[node >>> BITS & MASK] >>> INPUT_SHIFT != y) {
-                        before = n;
-                    } else {
-                        if (before == 0) {
-                            heads[head] = then;
-                        } else {
-                            following[before] = then;
-                        }
-                        following[n] = taken;
-                        taken = n;
-                    }
-                    n = then;
+            for (int i = 0; i < count; i++) {
+                int n = row[i];
+                int node = all[n];
+                if (all[node & MASK] >>> INPUT_SHIFT != y && all[node >>> BITS & MASK] >>> INPUT_SHIFT != y) {
+                    row[staying] = n;
+                    memberAt[n] = staying;
+                    staying++;
+                } else {
+                    unlink(n);
+                    next[n] = taken;
+                    taken = n;
                 }
             }
+            asks[x] = staying;
             return taken;
         }
 
         /**
-         * Nodes keep their numbers, as others lead to them: they ask y then, and x comes
-         * next. The rows do not grow here, change() has seen to that.
+         * The node keeps its number, as others lead to it: it asks y then, and x comes next.
+         * What a node of y that goes had led to does not go, as the new ones lead there.
          */
-        private void turn(int taken, int x, int y) {
+        private void turn(int n, int x, int y) {
             int[] all = nodes;
             int[] lead = leading;
+            int zero = all[n] >>> BITS & MASK;
+            int one = all[n] & MASK;
+            int ofZero = all[zero];
+            int ofOne = all[one];
+            int newZero;
+            int newOne;
+            if (ofZero >>> INPUT_SHIFT != y) {
+                newZero = nodeFor(x, zero, ofOne >>> BITS & MASK);
+                newOne = nodeFor(x, zero, ofOne & MASK);
+            } else if (ofOne >>> INPUT_SHIFT != y) {
+                newZero = nodeFor(x, ofZero >>> BITS & MASK, one);
+                newOne = nodeFor(x, ofZero & MASK, one);
+            } else {
+                newZero = nodeFor(x, ofZero >>> BITS & MASK, ofOne >>> BITS & MASK);
+                newOne = nodeFor(x, ofZero & MASK, ofOne & MASK);
+            }
+            lead[newZero]++;
+            lead[newOne]++;
+            all[n] = y << INPUT_SHIFT | newZero << BITS | newOne;
+            link(n);
+            enlist(n, y);
+            lead[zero]--;
+            if (lead[zero] == 0) {
+                lead[ofZero >>> BITS & MASK]--;
+                lead[ofZero & MASK]--;
+                forget(zero);
+            }
+            lead[one]--;
+            if (lead[one] == 0) {
+                lead[ofOne >>> BITS & MASK]--;
+                lead[ofOne & MASK]--;
+                forget(one);
+            }
+        }
+
+        /**
+         * As nodeFor(), but a node that was not there is only to be found, and is none of an
+         * input's. Sifting does this more than all else, so that found() is written out here.
+         */
+        int triedFor(int k, int zero, int one) {
+            if (zero == one) {
+                return zero;
+            }
+            int wanted = k << INPUT_SHIFT | zero << BITS | one;
+            int head = wanted * SPREAD >>> headShift;
+            int n = heads[head];
+            for (int steps = 0; n != 0 && steps < MOST_NODES; steps++) {
+                if (nodes[n] == wanted) {
+                    return n;
+                }
+                n = next[n];
+            }
+            n = fresh;
+            if (n >= nodes.length) {
+                return zero;
+            }
+            nodes[n] = wanted;
+            next[n] = heads[head];
+            heads[head] = n;
+            fresh++;
+            return n;
+        }
+
+        /** The last one that was tried is the first one of its chain, and so on backwards. */
+        void forgetTried(int first) {
+            for (int n = fresh - 1; n >= first; n--) {
+                heads[nodes[n] * SPREAD >>> headShift] = next[n];
+            }
+            fresh = first;
+        }
+    }
+
+    /**
+     * Finds what the whole size would be with an input at other places of the order. It
+     * goes through the nodes as if neighbours were changed and counts, but changes none:
+     * most places are not the best one, and coming back from them would be as much work.
+     */
+    private static final class Trial {
+        private static final int BITS = Nodes.BITS;
+        private static final int MASK = Nodes.MASK;
+
+        private final Nodes nodes;
+        /** The number of the first node that is there for the trial alone. */
+        private int first;
+        private int asks;
+        /** How many would lead to a node. */
+        private int[] leading;
+        /** Rising: whether a node depends on the input, and what it is for 0 and for 1 of it. */
+        private int[] marks;
+        private int mark;
+        private int[] parts;
+        /** Sinking: the nodes of the input, in a chain for the input that the next ones ask first. */
+        private int[] next;
+        private final int[] heads;
+        private final int[] places;
+
+        Trial(Nodes nodes) {
+            this.nodes = nodes;
+            leading = new int[Nodes.FIRST_NODES];
+            marks = new int[Nodes.FIRST_NODES];
+            mark = 0;
+            parts = new int[Nodes.FIRST_NODES];
+            next = new int[Nodes.FIRST_NODES];
+            heads = new int[INPUTS + 1];
+            places = new int[INPUTS + 1];
+        }
+
+        /** How many questions would ask the input. */
+        int asks() {
+            return asks;
+        }
+
+        private void fitNodes() {
+            int length = nodes.nodes.length;
+            if (leading.length < length) {
+                leading = Nodes.lengthened(leading, length);
+                marks = Nodes.lengthened(marks, length);
+                parts = Nodes.lengthened(parts, length);
+                next = Nodes.lengthened(next, length);
+            }
+        }
+
+        private void start(int x) {
+            first = nodes.fresh;
+            asks = nodes.asks[x];
+            System.arraycopy(nodes.leading, 0, leading, 0, first);
+        }
+
+        void end() {
+            nodes.forgetTried(first);
+        }
+
+        void startRising(int x) {
+            fitNodes();
+            start(x);
+            mark++;
+            int[] row = nodes.members[x];
+            for (int i = 0; i < asks; i++) {
+                int n = row[i];
+                marks[n] = mark;
+                parts[n] = nodes.nodes[n];
+            }
+        }
+
+        /** Input y came right before it, and would come right behind it: how the size would change. */
+        int riseAbove(int y) {
+            nodes.makeRoomFor(nodes.fresh + 2 * nodes.asks[y]);
+            fitNodes();
+            int[] all = nodes.nodes;
+            int[] row = nodes.members[y];
+            int count = nodes.asks[y];
+            int before = nodes.fresh;
+            int gone = 0;
+            for (int i = 0; i < count; i++) {
+                int n = row[i];
+                int zero = all[n] >>> BITS & MASK;
+                int one = all[n] & MASK;
+                boolean inZero = marks[zero] == mark;
+                boolean inOne = marks[one] == mark;
+                if (inZero || inOne) {
+                    if (inZero) {
+                        leading[zero]--;
+                        if (leading[zero] == 0) {
+                            gone++;
+                        }
+                    }
+                    if (inOne) {
+                        leading[one]--;
+                        if (leading[one] == 0) {
+                            gone++;
+                        }
+                    }
+                    int ofZero = inZero ? parts[zero] : zero << BITS | zero;
+                    int ofOne = inOne ? parts[one] : one << BITS | one;
+                    int ifZero = nodes.triedFor(y, ofZero >>> BITS & MASK, ofOne >>> BITS & MASK);
+                    int ifOne = nodes.triedFor(y, ofZero & MASK, ofOne & MASK);
+                    marks[n] = mark;
+                    parts[n] = ifZero << BITS | ifOne;
+                    asks++;
+                }
+            }
+            asks -= gone;
+            return nodes.fresh - before - gone;
+        }
+
+        void startSinking(int x, int[] order, int from) {
+            fitNodes();
+            start(x);
+            for (int i = from; i < INPUTS - 1; i++) {
+                places[order[i]] = i;
+                heads[i] = 0;
+            }
+            places[INPUTS] = INPUTS;
+            int[] row = nodes.members[x];
+            for (int i = 0; i < asks; i++) {
+                int node = nodes.nodes[row[i]];
+                link(row[i], node >>> BITS & MASK, node & MASK);
+            }
+        }
+
+        private void link(int n, int zero, int one) {
+            int ofZero = places[nodes.nodes[zero] >>> Nodes.INPUT_SHIFT];
+            int ofOne = places[nodes.nodes[one] >>> Nodes.INPUT_SHIFT];
+            int head = ofZero < ofOne ? ofZero : ofOne;
+            next[n] = heads[head];
+            heads[head] = n;
+        }
+
+        /** Input y came right behind x, and would come right before it: how the size would change. */
+        int sinkBelow(int x, int y) {
+            nodes.makeRoomFor(nodes.fresh + 2 * asks);
+            fitNodes();
+            int[] all = nodes.nodes;
+            int[] lead = leading;
+            int before = nodes.fresh;
+            int gone = 0;
             int turned = 0;
-            int n = taken;
-            while (n != 0 && turned < MOST_NODES) {
-                int then = next[n];
-                int node = all[n];
-                int zero = node >>> BITS & MASK;
-                int one = node & MASK;
+            int n = heads[places[y]];
+            while (n != 0 && turned < Nodes.MOST_NODES) {
+                int zero = all[n] >>> BITS & MASK;
+                int one = all[n] & MASK;
                 int ofZero = all[zero];
                 int ofOne = all[one];
-                int newZero;
-                int newOne;
-                if (ofZero >>> INPUT_SHIFT != y) {
-                    newZero = nodeFor(x, zero, ofOne >>> BITS & MASK);
-                    newOne = nodeFor(x, zero, ofOne & MASK);
-                } else if (ofOne >>> INPUT_SHIFT != y) {
-                    newZero = nodeFor(x, ofZero >>> BITS & MASK, one);
-                    newOne = nodeFor(x, ofZero & MASK, one);
+                if (ofZero >>> Nodes.INPUT_SHIFT != y) {
+                    leadOn(x, zero, ofOne >>> BITS & MASK);
+                    leadOn(x, zero, ofOne & MASK);
+                } else if (ofOne >>> Nodes.INPUT_SHIFT != y) {
+                    leadOn(x, ofZero >>> BITS & MASK, one);
+                    leadOn(x, ofZero & MASK, one);
                 } else {
-                    newZero = nodeFor(x, ofZero >>> BITS & MASK, ofOne >>> BITS & MASK);
-                    newOne = nodeFor(x, ofZero & MASK, ofOne & MASK);
+                    leadOn(x, ofZero >>> BITS & MASK, ofOne >>> BITS & MASK);
+                    leadOn(x, ofZero & MASK, ofOne & MASK);
                 }
-                lead[newZero]++;
-                lead[newOne]++;
-                all[n] = y << INPUT_SHIFT | newZero << BITS | newOne;
-                link(n);
-                turned++;
                 lead[zero]--;
                 if (lead[zero] == 0) {
-                    drop(zero);
+                    lead[ofZero >>> BITS & MASK]--;
+                    lead[ofZero & MASK]--;
+                    gone++;
                 }
                 lead[one]--;
                 if (lead[one] == 0) {
-                    drop(one);
+                    lead[ofOne >>> BITS & MASK]--;
+                    lead[ofOne & MASK]--;
+                    gone++;
                 }
-                n = then;
+                turned++;
+                n = next[n];
             }
-            asks[x] -= turned;
-            asks[y] += turned;
+            asks += nodes.fresh - before - turned;
+            return nodes.fresh - before - gone;
         }
 
-        /** What came next has new nodes that lead to it, and so never goes with this one. */
-        private void drop(int n) {
-            int node = nodes[n];
-            leading[node >>> BITS & MASK]--;
-            leading[node & MASK]--;
-            forget(n);
+        /** A node of x that is there already leads to these two already. */
+        private void leadOn(int x, int zero, int one) {
+            int before = nodes.fresh;
+            int n = nodes.triedFor(x, zero, one);
+            if (n == before) {
+                leading[zero]++;
+                leading[one]++;
+                link(n, zero, one);
+            } else if (zero == one) {
+                leading[zero]++;
+            }
         }
     }
 
@@ -852,6 +1075,7 @@ public final class DiagramHouse {
     private static final class Drawing {
         /** With more inputs than these it is less work to put whole words in order. */
         private static final int MOST_BIT_INPUTS = 5;
+        private static final int MOST_OF_ONE = 269;
         private static final int FOURS = 16;
 
         private final Functions functions;
@@ -862,9 +1086,9 @@ public final class DiagramHouse {
         private final int[] parts;
         private final long[] words;
         private final int[] wordParts;
+        private final int[] fourParts;
         private final int[] bitOf;
         private final int[] inputOf;
-        private final int[] fourParts;
 
         Drawing(Functions functions, Nodes nodes) {
             this.functions = functions;
@@ -874,18 +1098,19 @@ public final class DiagramHouse {
             parts = new int[1 << MOST_BIT_INPUTS];
             words = new long[Functions.WORDS];
             wordParts = new int[Functions.WORDS];
+            fourParts = new int[FOURS];
             bitOf = new int[INPUTS];
             inputOf = new int[INPUTS];
-            fourParts = new int[FOURS];
         }
 
         int rootOf(int p, int[] order) {
             int used = functions.usedInputs(p);
+            int zero = functions.bit(p, 0);
             if (used == 0) {
-                return functions.bit(p, 0);
+                return zero;
             }
             if ((used & used - 1) == 0) {
-                int zero = functions.bit(p, 0);
+                nodes.makeRoomFor(Nodes.ANSWERS + nodes.wholeSize() + 1);
                 return nodes.nodeFor(Integer.numberOfTrailingZeros(used), zero, 1 - zero);
             }
             int count = 0;
@@ -895,7 +1120,12 @@ public final class DiagramHouse {
                     count++;
                 }
             }
-            return count <= MOST_BIT_INPUTS ? ofBits(p, count) : ofWords(p, count);
+            if (count <= MOST_BIT_INPUTS) {
+                nodes.makeRoomFor(Nodes.ANSWERS + nodes.wholeSize() + (1 << count));
+                return ofBits(p, count);
+            }
+            nodes.makeRoomFor(Nodes.ANSWERS + nodes.wholeSize() + MOST_OF_ONE);
+            return ofWords(p, count);
         }
 
         private int ofBits(int p, int count) {
@@ -918,9 +1148,10 @@ public final class DiagramHouse {
         private int folded(int[] row, int from, int to) {
             int length = 1 << to - from;
             for (int i = from; i < to; i++) {
+                int k = asking[i];
                 length /= 2;
                 for (int x = 0; x < length; x++) {
-                    row[x] = nodes.nodeFor(asking[i], row[2 * x], row[2 * x + 1]);
+                    row[x] = nodes.nodeFor(k, row[2 * x], row[2 * x + 1]);
                 }
             }
             return row[0];
@@ -936,22 +1167,20 @@ public final class DiagramHouse {
             }
             int end = 1 << count - Functions.WORD_INPUTS;
             for (int w = 0; w < end; w++) {
-                wordParts[w] = ofWord(w);
-            }
-            return folded(wordParts, Functions.WORD_INPUTS, count);
-        }
-
-        private int ofWord(int w) {
-            long word = words[w];
-            for (int v = 0; v < w; v++) {
-                if (words[v] == word) {
-                    return wordParts[v];
+                int same = 0;
+                while (same < w && words[same] != words[w]) {
+                    same++;
+                }
+                if (same < w) {
+                    wordParts[w] = wordParts[same];
+                } else {
+                    for (int x = 0; x < FOURS; x++) {
+                        parts[x] = ofFour((int) (words[w] >>> 4 * x) & FOURS - 1);
+                    }
+                    wordParts[w] = folded(parts, 2, Functions.WORD_INPUTS);
                 }
             }
-            for (int x = 0; x < FOURS; x++) {
-                parts[x] = ofFour((int) (word >>> 4 * x) & FOURS - 1);
-            }
-            return folded(parts, 2, Functions.WORD_INPUTS);
+            return folded(wordParts, Functions.WORD_INPUTS, count);
         }
 
         /** Only sixteen parts are there of the last two inputs, so they are kept while a place is drawn. */
@@ -1027,29 +1256,27 @@ public final class DiagramHouse {
         private final Functions functions;
         private final Nodes nodes;
         private final Drawing drawing;
+        private final Trial trial;
         private final int[] order;
         private final int[] roots;
         /** The places whose functions have changed since they were drawn, a bit each. */
         private int changed;
-
         /** Inputs that no function has together pass one another without a change of nodes. */
         private final int[] mates;
         private boolean matesKnown;
+
         private final int[] turns;
 
-        /** Of the input that is being moved: where it is among the others, and was best. */
+        /** Of the input that is taken out of the order: where it was, and where it is best. */
         private int place;
         private int best;
         private int leastSize;
-        private final Nodes starting;
-        private final Nodes passed;
-        /** The nodes as they were at the best place; null if they are so now. */
-        private Nodes kept;
 
         Diagrams(Functions functions) {
             this.functions = functions;
             nodes = new Nodes();
             drawing = new Drawing(functions, nodes);
+            trial = new Trial(nodes);
             order = new int[INPUTS];
             for (int i = 0; i < INPUTS; i++) {
                 order[i] = i;
@@ -1059,8 +1286,6 @@ public final class DiagramHouse {
             mates = new int[INPUTS];
             matesKnown = true;
             turns = new int[INPUTS];
-            starting = new Nodes();
-            passed = new Nodes();
         }
 
         void functionChanged(int p) {
@@ -1068,83 +1293,58 @@ public final class DiagramHouse {
             matesKnown = false;
         }
 
-        /** Drawing waits for the first call that needs it, as most calls ask the tables alone. */
-        private int drawnRoot(int p) {
-            if ((changed >> p & 1) == 1) {
-                nodes.shortenChains();
+        /**
+         * Draws those of some places, a bit each, that are not drawn as their functions are.
+         * This waits for a call that needs it, as most calls ask the tables alone.
+         */
+        void draw(int places) {
+            for (int rest = changed & places; rest != 0; rest &= rest - 1) {
+                int p = Integer.numberOfTrailingZeros(rest);
                 int root = drawing.rootOf(p, order);
                 nodes.lead(root);
                 nodes.leadNoMore(roots[p], INPUTS);
                 roots[p] = root;
-                changed &= ~(1 << p);
             }
-            return roots[p];
+            changed &= ~places;
         }
 
-        private void drawAll() {
-            for (int rest = changed; rest != 0; rest &= rest - 1) {
-                drawnRoot(Integer.numberOfTrailingZeros(rest));
-            }
+        int sizeOf(int p) {
+            return nodes.sizeFrom(roots[p]);
+        }
+
+        int questionOf(int p, int given, int i) {
+            return nodes.questionFrom(roots[p], given, i);
         }
 
         int inputAt(int i) {
             return order[i];
         }
 
+        /** This and all that follows needs all places to be drawn. */
         int wholeSize() {
-            drawAll();
-            return nodes.size();
-        }
-
-        int sizeOf(int p) {
-            return nodes.sizeFrom(drawnRoot(p));
-        }
-
-        int questionOf(int p, int given, int i) {
-            return nodes.questionFrom(drawnRoot(p), given, i);
+            return nodes.wholeSize();
         }
 
         int questionsFor(int k) {
-            drawAll();
             return nodes.asksFor(k);
         }
 
-        private void prepareChanges() {
-            drawAll();
-            nodes.shortenChains();
-            if (!matesKnown) {
-                functions.findMates(mates);
-                matesKnown = true;
-            }
-        }
-
-        int moveTo(int k, int to) {
-            prepareChanges();
+        void moveTo(int k, int to) {
             takeOut(k);
-            for (int i = place; i < to; i++) {
-                if (isMate(k, order[i])) {
-                    nodes.change(k, order[i]);
-                }
-            }
-            for (int i = place - 1; i >= to; i--) {
-                if (isMate(k, order[i])) {
-                    nodes.change(order[i], k);
-                }
+            if (nodes.asksFor(k) > 0) {
+                pass(k, to, matesOf(k));
             }
             putIn(k, to);
-            return nodes.size();
-        }
-
-        private boolean isMate(int k, int y) {
-            return (mates[k] >> y & 1) == 1;
         }
 
         private void takeOut(int k) {
-            place = 0;
-            while (place < LAST && order[place] != k) {
-                place++;
+            int[] row = order;
+            int i = 0;
+            while (i < LAST && row[i] != k) {
+                i++;
             }
-            System.arraycopy(order, place + 1, order, place, LAST - place);
+            System.arraycopy(row, i + 1, row, i, LAST - i);
+            place = i;
         }
 
         private void putIn(int k, int to) {
@@ -1152,135 +1352,139 @@ public final class DiagramHouse {
             order[to] = k;
         }
 
-        int settleOne(int k) {
-            prepareChanges();
-            return settle(k);
+        private int matesOf(int k) {
+            if (!matesKnown) {
+                functions.findMates(mates);
+                matesKnown = true;
+            }
+            return mates[k];
         }
 
-        /** One without mates has the same size everywhere, so that the first place is best. */
-        private int settle(int k) {
+        private void pass(int k, int to, int among) {
+            for (int i = place; i < to; i++) {
+                int y = order[i];
+                if ((among >> y & 1) == 1) {
+                    nodes.change(k, y);
+                }
+            }
+            for (int i = place - 1; i >= to; i--) {
+                int y = order[i];
+                if ((among >> y & 1) == 1) {
+                    nodes.change(y, k);
+                }
+            }
+        }
+
+        /** Without mates the size is the same everywhere, so that the first place is best. */
+        int settle(int k) {
             takeOut(k);
             best = 0;
-            if (mates[k] != 0) {
-                int from = place;
-                best = from;
-                leastSize = nodes.size();
-                starting.become(nodes);
-                kept = starting;
-                sink(k);
-                if (place != from) {
-                    nodes.become(starting);
-                    place = from;
-                }
-                rise(k);
-                if (kept != null && place != best) {
-                    nodes.become(kept);
-                }
+            int among = nodes.asksFor(k) > 0 ? matesOf(k) : 0;
+            if (among != 0) {
+                best = place;
+                leastSize = nodes.wholeSize();
+                rise(k, among);
+                sink(k, among);
+                pass(k, best, among);
             }
             putIn(k, best);
             return best;
         }
 
         /**
-         * Goes down while that may be of use: a mate below has at least half as many
-         * nodes when k has passed it, as each of its nodes is made of two then.
+         * Tries the places before its own, of which the first of the best is wanted, while
+         * one can be as good: of k and of each mate above it at least one node stays.
          */
-        private void sink(int k) {
-            int saving = nodes.asksFor(k) - 1;
-            int toPass = 0;
-            for (int i = place; i < LAST; i++) {
-                if (isMate(k, order[i])) {
-                    saving += nodes.asksFor(order[i]) / 2;
-                    toPass++;
-                }
-            }
-            while (place < LAST && toPass > 0 && nodes.size() - saving < leastSize) {
-                int y = order[place];
-                place++;
-                if (isMate(k, y)) {
-                    saving -= nodes.asksFor(y) / 2 + nodes.asksFor(k);
-                    nodes.change(k, y);
-                    saving += nodes.asksFor(k);
-                    toPass--;
-                    if (nodes.size() < leastSize) {
-                        leastSize = nodes.size();
-                        best = place;
-                        passed.become(nodes);
-                        kept = passed;
-                    }
-                }
-            }
-        }
-
-        /** Goes up while that may be of use: of a mate above at least one node stays. */
-        private void rise(int k) {
-            int saving = nodes.asksFor(k) - 1;
+        private void rise(int k, int among) {
+            int saving = -1;
             int toPass = 0;
             for (int i = 0; i < place; i++) {
-                if (isMate(k, order[i])) {
-                    saving += nodes.asksFor(order[i]) - 1;
+                int y = order[i];
+                if ((among >> y & 1) == 1) {
+                    saving += nodes.asksFor(y) - 1;
                     toPass++;
                 }
             }
-            while (place > 0 && toPass > 0 && nodes.size() - saving <= leastSize) {
-                place--;
-                int y = order[place];
-                if (isMate(k, y)) {
-                    saving -= nodes.asksFor(y) - 1 + nodes.asksFor(k);
-                    passUpwards(k, y);
-                    saving += nodes.asksFor(k);
-                    toPass--;
+            int size = leastSize;
+            if (toPass > 0) {
+                trial.startRising(k);
+                for (int i = place - 1; toPass > 0 && i >= 0 && size - saving - trial.asks() <= leastSize; i--) {
+                    int y = order[i];
+                    if ((among >> y & 1) == 1) {
+                        size += trial.riseAbove(y);
+                        saving -= nodes.asksFor(y) - 1;
+                        toPass--;
+                    }
+                    if (size <= leastSize) {
+                        leastSize = size;
+                        best = i;
+                    }
                 }
-                if (nodes.size() <= leastSize) {
-                    leastSize = nodes.size();
-                    best = place;
-                }
+                trial.end();
             }
-            if (toPass == 0 && nodes.size() <= leastSize) {
-                place = 0;
+            if (toPass == 0 && size <= leastSize) {
                 best = 0;
             }
         }
 
-        private void passUpwards(int k, int y) {
-            if (kept == null) {
-                passed.become(nodes);
-                kept = passed;
+        /**
+         * Tries the places behind its own while one can be better: of k at least one node
+         * stays, and of a mate below it half of them, as no more than two become one.
+         */
+        private void sink(int k, int among) {
+            int saving = -1;
+            int toPass = 0;
+            for (int i = place; i < LAST; i++) {
+                int y = order[i];
+                if ((among >> y & 1) == 1) {
+                    saving += nodes.asksFor(y) / 2;
+                    toPass++;
+                }
             }
-            nodes.change(y, k);
-            if (nodes.size() <= leastSize) {
-                kept = null;
+            int size = nodes.wholeSize();
+            if (toPass == 0 || size - saving - nodes.asksFor(k) >= leastSize) {
+                return;
             }
+            trial.startSinking(k, order, place);
+            for (int i = place; toPass > 0 && i < LAST && size - saving - trial.asks() < leastSize; i++) {
+                int y = order[i];
+                if ((among >> y & 1) == 1) {
+                    size += trial.sinkBelow(k, y);
+                    saving -= nodes.asksFor(y) / 2;
+                    toPass--;
+                    if (size < leastSize) {
+                        leastSize = size;
+                        best = i + 1;
+                    }
+                }
+            }
+            trial.end();
         }
 
-        int settleAll() {
-            prepareChanges();
+        /** Gives a turn to each input that is asked: to those with the most questions first. */
+        int takeTurns() {
             int count = 0;
             for (int k = 0; k < INPUTS; k++) {
-                if (nodes.asksFor(k) > 0) {
-                    takeTurn(k, count);
+                int asks = nodes.asksFor(k);
+                if (asks > 0) {
+                    int i = count;
+                    while (i > 0 && nodes.asksFor(turns[i - 1]) < asks) {
+                        turns[i] = turns[i - 1];
+                        i--;
+                    }
+                    turns[i] = k;
                     count++;
                 }
             }
-            for (int i = 0; i < count; i++) {
-                settle(turns[i]);
-            }
-            settleUnused();
-            return nodes.size();
+            return count;
         }
 
-        /** Behind those that have as many questions or more. */
-        private void takeTurn(int k, int count) {
-            int at = count;
-            while (at > 0 && nodes.asksFor(turns[at - 1]) < nodes.asksFor(k)) {
-                turns[at] = turns[at - 1];
-                at--;
-            }
-            turns[at] = k;
+        int inputWithTurn(int turn) {
+            return turns[turn];
         }
 
-        /** Each in its turn comes to the first place, before those that came there earlier. */
-        private void settleUnused() {
+        /** Sifts those that are not asked: each comes to the first place, before the one with a turn earlier. */
+        void settleUnused() {
             int count = 0;
             for (int k = LAST; k >= 0; k--) {
                 if (nodes.asksFor(k) == 0) {

@@ -65,6 +65,10 @@ public final class FaceTest {
         CHECK.due("the constructor", constructors[0].toString(), "public DiagramHouse()");
         for (Class<?> inside : DiagramHouse.class.getDeclaredClasses()) {
             CHECK.due(inside.getName() + " is static", Modifier.isStatic(inside.getModifiers()), true);
+            for (Method method : inside.getDeclaredMethods()) {
+                boolean publicName = String.join(" ", METHODS).contains(" " + method.getName() + "(");
+                CHECK.due(inside.getName() + "." + method.getName() + " has a public name", publicName, false);
+            }
         }
     }
 
