@@ -237,6 +237,10 @@ public final class DiagramHouse {
             return mayUse[p] >> WORD_INPUTS;
         }
 
+        /**
+         * The bits that are 0 in the number of each word that is kept. With them filled in,
+         * adding one goes on to the next such number, up to WORDS behind the last one.
+         */
         private static int leftOut(int kept) {
             return LAST_WORD & ~kept;
         }
@@ -643,7 +647,7 @@ public final class DiagramHouse {
 
         /**
          * The node with this input and these next ones, which is the next one if that is
-         * the same for 0 and 1. One that was not there has nothing that leads to it yet.
+         * the same for 0 and 1. Nothing leads to one that was not there, as to free numbers.
          */
         int nodeFor(int k, int zero, int one) {
             if (zero == one) {
@@ -664,7 +668,6 @@ public final class DiagramHouse {
                 nodes[n] = wanted;
                 link(n);
                 enlist(n, k);
-                leading[n] = 0;
                 leading[zero]++;
                 leading[one]++;
                 size++;
@@ -955,6 +958,8 @@ public final class DiagramHouse {
             fitNodes();
             int[] all = nodes.nodes;
             int[] row = nodes.members[y];
+            int[] marked = marks;
+            int now = mark;
             int count = nodes.asks[y];
             int before = nodes.fresh;
             int gone = 0;
@@ -962,8 +967,8 @@ public final class DiagramHouse {
                 int n = row[i];
                 int zero = all[n] >>> BITS & MASK;
                 int one = all[n] & MASK;
-                boolean inZero = marks[zero] == mark;
-                boolean inOne = marks[one] == mark;
+                boolean inZero = marked[zero] == now;
+                boolean inOne = marked[one] == now;
                 if (inZero || inOne) {
                     if (inZero) {
                         leading[zero]--;
@@ -981,7 +986,7 @@ public final class DiagramHouse {
                     int ofOne = inOne ? parts[one] : one << BITS | one;
                     int ifZero = nodes.triedFor(y, ofZero >>> BITS & MASK, ofOne >>> BITS & MASK);
                     int ifOne = nodes.triedFor(y, ofZero & MASK, ofOne & MASK);
-                    marks[n] = mark;
+                    marked[n] = now;
                     parts[n] = ifZero << BITS | ifOne;
                     asks++;
                 }
@@ -1075,6 +1080,7 @@ public final class DiagramHouse {
     private static final class Drawing {
         /** With more inputs than these it is less work to put whole words in order. */
         private static final int MOST_BIT_INPUTS = 5;
+        /** No function has more nodes: 1, 2, 4, .. 128, and 12 and 2 for the last two inputs. */
         private static final int MOST_OF_ONE = 269;
         private static final int FOURS = 16;
 
@@ -1109,23 +1115,19 @@ public final class DiagramHouse {
             if (used == 0) {
                 return zero;
             }
-            if ((used & used - 1) == 0) {
-                nodes.makeRoomFor(Nodes.ANSWERS + nodes.wholeSize() + 1);
+            int count = Integer.bitCount(used);
+            nodes.makeRoomFor(Nodes.ANSWERS + nodes.wholeSize() + Math.min(1 << count, MOST_OF_ONE));
+            if (count == 1) {
                 return nodes.nodeFor(Integer.numberOfTrailingZeros(used), zero, 1 - zero);
             }
-            int count = 0;
+            int listed = 0;
             for (int i = INPUTS - 1; i >= 0; i--) {
                 if ((used >> order[i] & 1) == 1) {
-                    asking[count] = order[i];
-                    count++;
+                    asking[listed] = order[i];
+                    listed++;
                 }
             }
-            if (count <= MOST_BIT_INPUTS) {
-                nodes.makeRoomFor(Nodes.ANSWERS + nodes.wholeSize() + (1 << count));
-                return ofBits(p, count);
-            }
-            nodes.makeRoomFor(Nodes.ANSWERS + nodes.wholeSize() + MOST_OF_ONE);
-            return ofWords(p, count);
+            return count <= MOST_BIT_INPUTS ? ofBits(p, count) : ofWords(p, count);
         }
 
         private int ofBits(int p, int count) {

@@ -23,6 +23,10 @@ public final class RandomRunsTest {
             run("making", seed, MAKING, 10, 30);
             run("few places", seed, ALL, 4, 0);
         }
+        for (int seed = 0; seed < 4; seed++) {
+            growingRun(seed);
+            narrowRun(seed);
+        }
         for (int seed = 0; seed < 2; seed++) {
             denseRun(seed);
         }
@@ -69,6 +73,63 @@ public final class RandomRunsTest {
         CHECK.due(what + " has large diagrams: " + whole, Integer.parseInt(whole) > 3200, true);
         compare(what, real, plain, "sift", random.nextInt(10));
         compare(what, real, plain, "move", random.nextInt(10), random.nextInt(10));
+        compareAll(what, real, plain);
+    }
+
+    /** Functions of pairs of neighbours: small in the order at first, large when the pairs are far apart. */
+    private static void growingRun(int seed) {
+        Random random = new Random(seed);
+        String what = "growing run " + seed;
+        Caller real = new Caller(new DiagramHouse());
+        Caller plain = new Caller(new PlainHouse());
+        for (int p = 0; p < 10; p++) {
+            compare(what, real, plain, "input", p, p);
+        }
+        for (int p = 10; p < 23; p++) {
+            compare(what, real, plain, "make", p, random.nextInt(6), 0, 1);
+            for (int pair = 2; pair < 10; pair += 2) {
+                compare(what, real, plain, "make", 23, random.nextInt(6), pair, pair + 1);
+                compare(what, real, plain, "make", p, random.nextInt(3), p, 23);
+            }
+        }
+        compare(what, real, plain, "size", -1);
+        for (int k = 2; k < 10; k += 2) {
+            compare(what, real, plain, "move", k, k / 2);
+            if (seed % 2 == 1) {
+                compare(what, real, plain, "sift", random.nextInt(10));
+            }
+        }
+        for (int turn = 0; turn < 5; turn++) {
+            compare(what, real, plain, "move", random.nextInt(10), random.nextInt(10));
+            compare(what, real, plain, "sift", random.nextInt(10));
+        }
+        compareAll(what, real, plain);
+    }
+
+    /** Functions of five inputs, others at each place, so that there is little room beside the nodes. */
+    private static void narrowRun(int seed) {
+        Random random = new Random(seed);
+        String what = "narrow run " + seed;
+        Caller real = new Caller(new DiagramHouse());
+        Caller plain = new Caller(new PlainHouse());
+        for (int p = 0; p < 10; p++) {
+            compare(what, real, plain, "input", p, p);
+        }
+        for (int p = 10; p < 24; p++) {
+            int shift = random.nextInt(10);
+            compare(what, real, plain, "make", p, random.nextInt(6), shift, (shift + 3) % 10);
+            for (int more = 0; more < 8; more++) {
+                int q = (shift + 3 * random.nextInt(5)) % 10;
+                compare(what, real, plain, "choose", p, q, p, (shift + 3 * random.nextInt(5)) % 10);
+                compare(what, real, plain, "make", p, 2 + random.nextInt(2), p, (shift + 3 * random.nextInt(5)) % 10);
+            }
+            if (seed % 2 == 1) {
+                compare(what, real, plain, "size", -1);
+                compare(what, real, plain, "sift", random.nextInt(10));
+                compare(what, real, plain, "move", random.nextInt(10), random.nextInt(10));
+                compare(what, real, plain, "size", p);
+            }
+        }
         compareAll(what, real, plain);
     }
 
