@@ -6,8 +6,11 @@ import java.util.Map;
 /** Calls a house's method by its name, so that the class and the plain model can be asked the same. */
 final class Caller {
     static final String DONE = "done";
+    /** The document promises nothing behind this many calls, so that no test may rest on more. */
+    static final int MOST_CALLS = 512;
 
     private final Object house;
+    private int calls = 0;
     private final Map<String, Method> methods = new HashMap<>();
 
     Caller(Object house) {
@@ -22,6 +25,10 @@ final class Caller {
 
     /** A boolean argument is told as 0 or 1. The answer is a text: a number, true, false, done or throws.X. */
     String answer(String name, int... arguments) {
+        calls++;
+        if (calls > MOST_CALLS) {
+            throw new IllegalStateException("the test makes more calls than an object is for");
+        }
         Method method = methods.get(name);
         Class<?>[] types = method.getParameterTypes();
         if (types.length != arguments.length) {
@@ -39,6 +46,10 @@ final class Caller {
         } catch (IllegalAccessException e) {
             throw new IllegalStateException(e);
         }
+    }
+
+    int callsLeft() {
+        return MOST_CALLS - calls;
     }
 
     /** The call as a text: name(1, 2). */

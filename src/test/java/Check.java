@@ -33,10 +33,6 @@ final class Check {
         }
     }
 
-    boolean allRight() {
-        return wrong == 0;
-    }
-
     void end() {
         System.out.println(asked + " answers looked at, " + wrong + " not as due");
         if (wrong != 0 || asked == 0) {

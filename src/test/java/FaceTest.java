@@ -6,17 +6,23 @@ import java.lang.reflect.Modifier;
 import java.nio.file.Files;
 import java.nio.file.Path;
 import java.util.Arrays;
+import java.util.StringJoiner;
 import java.util.TreeSet;
 
 /** The class has the document's face and nothing else that can be seen, and keeps to what a text search can tell. */
 public final class FaceTest {
+    private static final String INDEX = " throws IndexOutOfBoundsException";
+    private static final String ARGUMENT = " throws IllegalArgumentException";
+    private static final String BOTH = " throws IndexOutOfBoundsException, IllegalArgumentException";
+
     private static final String[] METHODS = {
-        "void constant(int, int)", "void input(int, int)", "void make(int, int, int, int)",
-        "void choose(int, int, int, int)", "void fix(int, int, int, int)", "void compose(int, int, int, int)",
-        "void quantify(int, int, int, boolean)", "void meet(int, int, int, int)", "int move(int, int)",
-        "int sift(int)", "int siftAll()", "int order(int)", "int size(int)", "int count(int)",
-        "boolean value(int, int)", "int least(int)", "int support(int)", "boolean alike(int, int)",
-        "int asked(int, int, int)", "int questions(int)"};
+        "void constant(int, int)" + BOTH, "void input(int, int)" + BOTH, "void make(int, int, int, int)" + BOTH,
+        "void choose(int, int, int, int)" + INDEX, "void fix(int, int, int, int)" + BOTH,
+        "void compose(int, int, int, int)" + BOTH, "void quantify(int, int, int, boolean)" + BOTH,
+        "void meet(int, int, int, int)" + BOTH, "int move(int, int)" + ARGUMENT, "int sift(int)" + ARGUMENT,
+        "int siftAll()", "int order(int)" + INDEX, "int size(int)" + INDEX, "int count(int)" + INDEX,
+        "boolean value(int, int)" + BOTH, "int least(int)" + INDEX, "int support(int)" + INDEX,
+        "boolean alike(int, int)" + INDEX, "int asked(int, int, int)" + BOTH, "int questions(int)" + ARGUMENT};
     private static final String[] NOT_ALLOWED = {
         "import ", "package ", "catch", "finally", "synchronized", "assert ", "->", "::", "hashCode", "Exact("};
 
@@ -39,7 +45,7 @@ public final class FaceTest {
             }
             CHECK.due(method.getName() + "'s modifiers", Modifier.toString(method.getModifiers()), "public");
             String types = Arrays.toString(method.getParameterTypes()).replace("[", "(").replace("]", ")");
-            seen.add(method.getReturnType() + " " + method.getName() + types);
+            seen.add(method.getReturnType() + " " + method.getName() + types + exceptions(method));
             names.add(method.getName());
         }
         CHECK.due("the methods", seen, new TreeSet<>(Arrays.asList(METHODS)));
@@ -48,6 +54,14 @@ public final class FaceTest {
                 CHECK.due(method.getName() + " is private with a public name", names.contains(method.getName()), false);
             }
         }
+    }
+
+    private static String exceptions(Method method) {
+        StringJoiner names = new StringJoiner(", ", " throws ", "").setEmptyValue("");
+        for (Class<?> exception : method.getExceptionTypes()) {
+            names.add(exception.getSimpleName());
+        }
+        return names.toString();
     }
 
     private static void others() {

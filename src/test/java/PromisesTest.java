@@ -1,7 +1,7 @@
 /** Each promise of the document with answers worked out by hand. */
 public final class PromisesTest {
-    private static final String NO_PLACE = " = throws.IndexOutOfBoundsException";
-    private static final String WRONG = " = throws.IllegalArgumentException";
+    private static final String NO_PLACE = Rows.NO_PLACE;
+    private static final String WRONG = Rows.WRONG;
     private static final Check CHECK = new Check();
 
     public static void main(String[] args) {

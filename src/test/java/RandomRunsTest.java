@@ -3,7 +3,8 @@ import java.util.Random;
 
 /** Runs of 512 calls on the class and on the plain model: every answer must be the same. */
 public final class RandomRunsTest {
-    private static final int CALLS = 512;
+    /** With the 128 calls that compare all at the end an object has 512. */
+    private static final int CALLS = 384;
 
     /** The methods of a run; one that stands more often is called more often. */
     private static final String[] ALL = {
@@ -64,7 +65,7 @@ public final class RandomRunsTest {
         for (int p = 0; p < 23; p++) {
             compare(what, real, plain, "input", p, p % 10);
         }
-        for (int turn = 0; turn < 230; turn++) {
+        for (int turn = 0; turn < 178; turn++) {
             compare(what, real, plain, "make", 23, random.nextInt(2), random.nextInt(23), random.nextInt(23));
             compare(what, real, plain, "make", turn % 23, 2, turn % 23, 23);
         }

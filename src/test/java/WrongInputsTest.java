@@ -1,6 +1,3 @@
-import java.util.ArrayList;
-import java.util.List;
-
 /** Every wrong argument of every method: which exception is thrown, and that nothing changes by it. */
 public final class WrongInputsTest {
     private static final String INDEX = "throws.IndexOutOfBoundsException";
@@ -15,6 +12,8 @@ public final class WrongInputsTest {
 
     private static final Check CHECK = new Check();
 
+    private static Caller house;
+
     public static void main(String[] args) {
         for (String[] method : METHODS) {
             tryAll(method[0], method[1]);
@@ -23,27 +22,37 @@ public final class WrongInputsTest {
     }
 
     private static void tryAll(String name, String kinds) {
-        Caller house = new Caller(new DiagramHouse());
-        fill(house);
-        String before = state(house);
-        int[] arguments = new int[kinds.length()];
-        tryFrom(house, name, kinds, arguments, 0);
-        CHECK.due(name + " with wrong arguments leaves the state", state(house), before);
+        house = State.full();
+        tryFrom(name, kinds, new int[kinds.length()], 0);
+        lookAtState(name);
     }
 
     /** Tries all rows of arguments with at least one wrong one. */
-    private static void tryFrom(Caller house, String name, String kinds, int[] arguments, int next) {
+    private static void tryFrom(String name, String kinds, int[] arguments, int next) {
         if (next == arguments.length) {
             String want = due(kinds, arguments);
             if (want != null) {
                 CHECK.due(name + java.util.Arrays.toString(arguments), house.answer(name, arguments), want);
+                takeAnotherHouse(name);
             }
             return;
         }
         for (int number : numbers(kinds.charAt(next))) {
             arguments[next] = number;
-            tryFrom(house, name, kinds, arguments, next + 1);
+            tryFrom(name, kinds, arguments, next + 1);
         }
+    }
+
+    /** So many refused calls on one house that it can still tell its state. */
+    private static void takeAnotherHouse(String name) {
+        if (house.callsLeft() <= State.CALLS) {
+            lookAtState(name);
+            house = State.full();
+        }
+    }
+
+    private static void lookAtState(String name) {
+        CHECK.due(name + " with wrong arguments leaves the state", State.of(house), State.FULL);
     }
 
     private static int end(char kind) {
@@ -80,31 +89,5 @@ public final class WrongInputsTest {
             }
         }
         return due;
-    }
-
-    private static void fill(Caller house) {
-        for (int p = 0; p < 10; p++) {
-            house.answer("input", p, p);
-        }
-        for (int p = 10; p < 24; p++) {
-            house.answer("make", p, p % 6, p - 10, p - 3);
-        }
-        house.answer("move", 7, 1);
-        house.answer("move", 0, 9);
-    }
-
-    private static String state(Caller house) {
-        List<String> told = new ArrayList<>();
-        for (int k = 0; k < 10; k++) {
-            told.add(house.answer("order", k));
-            told.add(house.answer("questions", k));
-        }
-        for (int p = 0; p < 24; p++) {
-            told.add(house.answer("size", p));
-            for (int x = 0; x < 1024; x++) {
-                told.add(house.answer("value", p, x).substring(0, 1));
-            }
-        }
-        return String.join("", told);
     }
 }
