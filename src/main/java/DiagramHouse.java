@@ -299,6 +299,7 @@ public final class DiagramHouse {
                     case XOR: joined[w] = a ^ b; break;
                     case IMPLIES: joined[w] = ~a | b; break;
                     case SAME: joined[w] = ~(a ^ b); break;
+                    case WITHOUT:
                     default: joined[w] = a & ~b; break;
                 }
             }
@@ -714,14 +715,18 @@ public final class DiagramHouse {
             leading[n]++;
         }
 
+        void leadNoMore(int n) {
+            leave(n, INPUTS);
+        }
+
         /** A next node asks a later input, so that the depth of these calls is that of a diagram. */
-        void leadNoMore(int n, int depth) {
+        private void leave(int n, int depth) {
             leading[n]--;
             if (leading[n] == 0 && depth > 0) {
                 int node = nodes[n];
                 forget(n);
-                leadNoMore(node >>> BITS & MASK, depth - 1);
-                leadNoMore(node & MASK, depth - 1);
+                leave(node >>> BITS & MASK, depth - 1);
+                leave(node & MASK, depth - 1);
             }
         }
 
@@ -1304,7 +1309,7 @@ public final class DiagramHouse {
                 int p = Integer.numberOfTrailingZeros(rest);
                 int root = drawing.rootOf(p, order);
                 nodes.lead(root);
-                nodes.leadNoMore(roots[p], INPUTS);
+                nodes.leadNoMore(roots[p]);
                 roots[p] = root;
             }
             changed &= ~places;
