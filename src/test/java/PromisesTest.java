@@ -172,6 +172,8 @@ public final class PromisesTest {
             "sift(0) = 0", "order(0) = 0", "size(-1) = 6"));
         CHECK.run("promise 11: of several the first", "sift(5) = 0", "order(0) = 5", "order(5) = 4", "sift(5) = 0",
             "sift(9) = 0", "order(0) = 9", "order(1) = 5");
+        CHECK.run("promise 11: of several the first, not where it is", pairs("sift(3) = 2", "order(2) = 3",
+            "order(3) = 2", "size(-1) = 6", "sift(5) = 4", "order(4) = 5", "order(5) = 4"));
         CHECK.run("promise 11: the least is not the first", pairs("move(2, 9) = 8", "move(0, 9) = 14",
             "sift(1) = 8", "size(-1) = 8", "order(6) = 9", "order(7) = 2", "order(8) = 1", "order(9) = 0"));
         CHECK.run("promise 11", "sift(10)" + WRONG, "sift(-1)" + WRONG, "order(0) = 0");
@@ -181,6 +183,8 @@ public final class PromisesTest {
         CHECK.run("promise 12", "siftAll() = 0", "order(0) = 9", "order(1) = 8", "order(9) = 0");
         CHECK.run("promise 12: those without questions come last", "input(0, 9)", "siftAll() = 1", "order(0) = 8",
             "order(9) = 9", "order(8) = 0");
+        CHECK.run("promise 12: of several the least", Rows.join("input(0, 6)", "input(1, 3)", "siftAll() = 2",
+            Rows.orderIs("9875421063")));
         CHECK.run("promise 12: those with the most questions first", "input(0, 3)", "input(1, 6)", "make(2, 2, 0, 1)",
             "questions(3) = 2", "questions(6) = 2", "input(3, 5)", "make(3, 0, 3, 1)", "questions(5) = 1", "siftAll() = 5",
             "order(0) = 9", "order(1) = 8", "order(2) = 7", "order(3) = 4", "order(4) = 2", "order(5) = 1",
